@@ -1026,6 +1026,8 @@ public final class DepotCharge {
         private final int[] high = new int[MOST_BUSES];
         private final int[] due = new int[MOST_BUSES];
         private int state = 0;
+        private int charged = 0;
+        private int there = 0;
         private final int[] usedBySet = new int[ALL_SETS];
 
         Planner(Depot depot) {
@@ -1044,7 +1046,7 @@ public final class DepotCharge {
         /** COST of BEST; LACKING: it has LACK. */
         int costIfReady() {
             traceAll();
-            if (!eachCanBeReady() || !weighStates(true)) {
+            if (!mayBeReady() || !weighStates(true)) {
                 return LACKING;
             }
             return (int) (worth[0] / CHARGE_SPAN % COST_SPAN);
@@ -1052,7 +1054,7 @@ public final class DepotCharge {
 
         void findPlan(int[] sets) {
             traceAll();
-            if (!eachCanBeReady() || !weighStates(true)) {
+            if (!mayBeReady() || !weighStates(true)) {
                 weighStates(false);
             }
             int place = 0;
@@ -1097,13 +1099,20 @@ public final class DepotCharge {
             lacks[bus * COUNTS + charges] = Math.max(0, need - level);
         }
 
-        private boolean eachCanBeReady() {
+        /** false: a BUS by itself, or PLUGS or LIMIT over all SLOTS, lead to LACK, whatever the PLAN. */
+        private boolean mayBeReady() {
+            int charges = 0;
+            int taken = 0;
             for (int b = 0; b < MOST_BUSES; b++) {
                 if (lacks[b * COUNTS + most[b]] > 0) {
                     return false;
                 }
+                charges += most[b];
+                for (int k = 0; k < most[b]; k++) {
+                    taken += gains[b * COUNTS + k];
+                }
             }
-            return true;
+            return charges <= settings[PLUGS] * depot.slotCount && taken <= settings[LIMIT] * depot.slotCount;
         }
 
         /** Weighs all states, or (ready) those alone from which no BUS need have LACK; false: no PLAN. */
@@ -1117,7 +1126,10 @@ public final class DepotCharge {
             for (int s = last - 1; s >= 0; s--) {
                 states = spread(s, ready);
                 for (int i = 0; i < states; i++) {
-                    settle(s);
+                    // With more charges than PLUGS so far it is never come to.
+                    if (charged <= settings[PLUGS] * s) {
+                        settle(s);
+                    }
                     nextState();
                 }
             }
@@ -1128,31 +1140,34 @@ public final class DepotCharge {
         private int spread(int slot, boolean ready) {
             int states = 1;
             state = 0;
+            charged = 0;
+            there = 0;
             for (int b = 0; b < MOST_BUSES; b++) {
                 int before = Math.min(stay[b], Math.max(0, slot - comes[b]));
                 int behind = stay[b] - before;
                 low[b] = ready ? Math.max(0, most[b] - behind) : 0;
                 high[b] = Math.min(most[b], before);
-                due[b] = ready && isThere(b, slot) ? Math.max(0, most[b] - behind + 1) : 0;
+                boolean isThere = slot >= comes[b] && behind > 0;
+                there |= isThere ? 1 << b : 0;
+                due[b] = ready && isThere ? Math.max(0, most[b] - behind + 1) : 0;
                 at[b] = low[b];
+                charged += at[b];
                 state += at[b] * shift[1 << b];
                 states *= Math.max(0, high[b] - low[b] + 1);
             }
             return states;
         }
 
-        private boolean isThere(int bus, int slot) {
-            return slot >= comes[bus] && slot < comes[bus] + stay[bus];
-        }
-
         private void nextState() {
             for (int b = 0; b < MOST_BUSES; b++) {
                 if (at[b] < high[b]) {
                     at[b]++;
+                    charged++;
                     state += shift[1 << b];
                     return;
                 }
                 state -= (at[b] - low[b]) * shift[1 << b];
+                charged -= at[b] - low[b];
                 at[b] = low[b];
             }
         }
@@ -1170,8 +1185,8 @@ public final class DepotCharge {
             int can = 0;
             int must = 0;
             for (int b = 0; b < MOST_BUSES; b++) {
-                if (at[b] < most[b] && isThere(b, slot)) {
-                    can |= 1 << b;
+                if (at[b] < most[b]) {
+                    can |= 1 << b & there;
                 }
                 if (at[b] < due[b]) {
                     must |= 1 << b;

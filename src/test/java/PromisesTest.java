@@ -6,6 +6,7 @@ public final class PromisesTest {
 
     public static void main(String[] args) {
         newObject();
+        exampleOfReadme();
         set();
         bus();
         drop();
@@ -63,6 +64,16 @@ public final class PromisesTest {
         C.same("latest", d.latest(0), -1);
         C.same("clear", d.clear(), 0);
         C.same("drop", d.drop(), -1);
+    }
+
+    private static void exampleOfReadme() {
+        DepotCharge d = new DepotCharge();
+        C.same("feed", d.feed(0x63757276, 0x65203020, 0x33303b70, 0x6c756773, 0x20323b20), 20);
+        C.yes("end", d.end(19));
+        C.same("tell", d.tell(), 2);
+        C.same("bus", d.bus(0, 100, 0, 50, 0, 4), 0);
+        C.same("best", d.best(0), 600);
+        C.same("take", d.take(), 3);
     }
 
     private static void set() {
@@ -405,6 +416,10 @@ public final class PromisesTest {
         C.same("no bus", d.latest(3), -1);
         C.same("no bus", d.latest(-1), -1);
         C.same("nothing is changed", d.told(0, 4), 0);
+        DepotCharge e = Checks.depot("slots 8; price 7 3; curve 0 10; bus 0 100 0 10 0 8;");
+        C.same("in the last slot", e.late(0, 7), 30);
+        C.same("not there in any", e.late(0, 8), -2);
+        C.same("latest of all slots", e.latest(0), 7);
         C.same("nothing is changed", d.best(0), 60);
     }
 

@@ -201,6 +201,11 @@ public final class TextsTest {
         fault(two, "charge 0 1 1;", 3, 11);
         fault(two, "charge 0 0 1 0;", 3, 13);
         fault(two, "charge 0 0 1 2;", 2, 13);
+        String four = two + "bus 0 10 0 10 0 4; bus 0 10 0 10 0 4;";
+        fault(four, "charge 0 3 2 1 0 0;", 3, 17);
+        fault(four, "charge 0 3 2 1 0 4;", 2, 17);
+        fault(four, "charge 0 3 2 1 0 00000;", 1, 17);
+        C.same("four", Checks.tell(Checks.depot(four), "charge 0 3 2 1 0;"), 1);
         C.same("another charge", Checks.tell(Checks.depot(two), "charge 0 1; charge 0 1; charge 1 1;"), 3);
     }
 
