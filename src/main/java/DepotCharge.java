@@ -515,7 +515,7 @@ public final class DepotCharge {
             return true;
         }
 
-        private int leastOffer(int what) {
+        int leastOffer(int what) {
             switch (what) {
                 case CAPACITY: return 1;
                 case GOES: return offered[COMES] + 1;
@@ -523,7 +523,7 @@ public final class DepotCharge {
             }
         }
 
-        private int mostOffer(int what) {
+        int mostOffer(int what) {
             switch (what) {
                 case CURVE: return curveCount - 1;
                 case CAPACITY: return MOST_CAPACITY;
@@ -563,18 +563,14 @@ public final class DepotCharge {
 
         /** TAKES, were POWER this one. */
         int gain(int bus, int level, int power) {
-            int capacity = fact(bus, CAPACITY);
-            int rate = rateAt(fact(bus, CURVE), capacity, level);
-            return Math.min(Math.min(power, capacity - level), rate);
-        }
-
-        private int rateAt(int curve, int capacity, int level) {
+            int capacity = facts[bus * FACTS + CAPACITY];
+            int curve = facts[bus * FACTS + CURVE];
             int first = curve * MOST_PIECES;
             int piece = Math.max(0, pieceCounts[curve] - 1);
             while (piece > 0 && froms[first + piece] * capacity > level * 100) {
                 piece--;
             }
-            return rates[first + piece];
+            return Math.min(Math.min(power, capacity - level), rates[first + piece]);
         }
 
         int fewestCharges(int bus, int from, int to) {
@@ -755,23 +751,13 @@ public final class DepotCharge {
             }
         }
 
-        private boolean numberStands() {
-            if (tape.kind == Tape.NUMBER && tape.number != NONE) {
-                return true;
-            }
-            blame(CANT_STAND);
-            return false;
-        }
-
         private boolean numberIsWithin(int low, int high) {
-            if (!numberStands()) {
-                return false;
-            }
-            if (tape.number < low || tape.number > high) {
+            if (tape.kind != Tape.NUMBER || tape.number == NONE) {
+                blame(CANT_STAND);
+            } else if (tape.number < low || tape.number > high) {
                 blame(CANT_BE);
-                return false;
             }
-            return true;
+            return fault == 0;
         }
 
         /** The NUMBER that stands there, behind which the TAPE goes on; NONE: a FAULT. */
@@ -820,33 +806,28 @@ public final class DepotCharge {
             tape.step();
             int curve = depot.curveCount;
             depot.pieceCounts[curve] = 0;
-            int from = readPiece(depot, curve, 0, 0);
+            int leastFrom = 0;
+            int mostFrom = 0;
             // The round behind the last PIECE that may be finds the FAULT.
-            for (int k = 1; k <= MOST_PIECES && from != NONE && tape.kind == Tape.NUMBER; k++) {
-                from = readPiece(depot, curve, from + 1, MOST_FROM);
+            for (int k = 0; k <= MOST_PIECES && (k == 0 || tape.kind == Tape.NUMBER); k++) {
+                if (!numberIsWithin(leastFrom, mostFrom)) {
+                    return;
+                }
+                if (k == MOST_PIECES) {
+                    blame(ONE_TOO_MANY);
+                    return;
+                }
+                int from = tape.number;
+                tape.step();
+                int rate = readNumber(1, MOST_RATE);
+                if (rate == NONE) {
+                    return;
+                }
+                depot.addPiece(curve, from, rate);
+                leastFrom = from + 1;
+                mostFrom = MOST_FROM;
             }
-            if (fault == 0) {
-                depot.curveCount++;
-            }
-        }
-
-        /** FROM of the PIECE that was read; NONE: a FAULT. */
-        private int readPiece(Depot depot, int curve, int leastFrom, int mostFrom) {
-            if (!numberIsWithin(leastFrom, mostFrom)) {
-                return NONE;
-            }
-            if (depot.pieceCounts[curve] >= MOST_PIECES) {
-                blame(ONE_TOO_MANY);
-                return NONE;
-            }
-            int from = tape.number;
-            tape.step();
-            int rate = readNumber(1, MOST_RATE);
-            if (rate == NONE) {
-                return NONE;
-            }
-            depot.addPiece(curve, from, rate);
-            return from;
+            depot.curveCount++;
         }
 
         private void readBus(Depot depot) {
@@ -856,14 +837,11 @@ public final class DepotCharge {
             }
             tape.step();
             for (int what = 0; what < FACTS; what++) {
-                if (!numberStands()) {
+                int v = readNumber(depot.leastOffer(what), depot.mostOffer(what));
+                if (v == NONE) {
                     return;
                 }
-                if (!depot.offer(what, tape.number)) {
-                    blame(CANT_BE);
-                    return;
-                }
-                tape.step();
+                depot.offer(what, v);
             }
             depot.addOffered();
         }
@@ -875,7 +853,7 @@ public final class DepotCharge {
                 return;
             }
             int set = 0;
-            // A BUS stands there once alone, so there are no more rounds than BUSES.
+            // A BUS stands there once alone, so the round behind MOST_BUSES finds a FAULT.
             for (int i = 0; i <= MOST_BUSES && tape.kind == Tape.NUMBER; i++) {
                 if (!numberIsWithin(0, depot.busCount - 1)) {
                     return;
