@@ -1,4 +1,7 @@
 import java.nio.charset.StandardCharsets;
+import java.util.ArrayList;
+import java.util.List;
+import java.util.function.IntSupplier;
 
 /** Counts checks, prints those that fail, and feeds texts to a depot. */
 final class Checks {
@@ -22,6 +25,37 @@ final class Checks {
 
     void no(String label, boolean got) {
         same(label, got ? 1 : 0, 0);
+    }
+
+    /** A call that is refused, or that only asks: it answers what is due, and changes nothing. */
+    void still(String label, DepotCharge depot, IntSupplier call, long want) {
+        List<Integer> before = stateOf(depot);
+        same(label, call.getAsInt(), want);
+        yes(label + " changes nothing", stateOf(depot).equals(before));
+    }
+
+    /** All that is told of a depot, as the calls that only ask answer it. */
+    static List<Integer> stateOf(DepotCharge depot) {
+        List<Integer> all = new ArrayList<>();
+        all.add(depot.fault());
+        for (int what = 0; what < 18; what++) {
+            all.add(depot.count(what));
+        }
+        for (int b = 0; b < depot.count(1); b++) {
+            for (int what = 0; what < 6; what++) {
+                all.add(depot.told(b, what));
+            }
+        }
+        for (int c = 0; c < depot.count(2); c++) {
+            for (int k = -1; k < 4; k++) {
+                all.add(depot.curve(c, k, 0));
+                all.add(depot.curve(c, k, 1));
+            }
+        }
+        for (int s = 0; s < 8; s++) {
+            all.add(depot.plan(s));
+        }
+        return all;
     }
 
     void finish() {

@@ -12,6 +12,11 @@ public final class TextsTest {
         standsAlready();
         oneTooMany();
         allElseStays();
+        everyStatementCutShort();
+        everyNumberTooLong();
+        bytesBesideLettersAndDigits();
+        longTokens();
+        firstAlongTheText();
         C.finish();
     }
 
@@ -242,5 +247,108 @@ public final class TextsTest {
         C.same("fault stays told", d.fault(), 1 + 8 * 77);
         C.same("curve again", Checks.tell(d, "curve 0 3;"), 1);
         C.same("one piece", d.curve(1, -1, 0), 1);
+    }
+
+    /** Every STATEMENT, cut ahead of each of its TOKENS: what is missing is a FAULT 1 at what stands there. */
+    private static void everyStatementCutShort() {
+        String[] all = {"slots 4", "price 0 9", "plugs 2", "power 2", "limit 2", "curve 0 9", "bus 0 9 0 9 0 4", "charge 0"};
+        for (String statement : all) {
+            for (int at = statement.indexOf(' '); at > 0; at = statement.indexOf(' ', at + 1)) {
+                String cut = statement.substring(0, at);
+                fault("curve 0 9;", cut, 1, at);
+                fault("curve 0 9;", cut + ";", 1, at);
+                fault("curve 0 9;", cut + " ;", 1, at + 1);
+                fault("curve 0 9;", cut + " \n ", 1, at + 3);
+                fault("curve 0 9;", cut + " limit 9;", 1, at + 1);
+                fault("curve 0 9;", cut + ",", 1, at);
+            }
+            fault("curve 0 9;", statement, 1, statement.length());
+            fault("curve 0 9;", statement + " slots", 1, statement.length() + 1);
+            C.same(statement + ";", Checks.tell(Checks.depot("curve 0 9;"), statement + ";"), 1);
+        }
+    }
+
+    /** Each NUMBER of each STATEMENT with five digits, though it would fit by what it is. */
+    private static void everyNumberTooLong() {
+        String first = "curve 0 9; bus 0 9 0 9 0 4;";
+        String[] all = {"slots 4", "price 0 9", "plugs 2", "power 2", "limit 2", "curve 0 9 5 8", "bus 0 9 0 9 0 4", "charge 0 0"};
+        for (String statement : all) {
+            for (int at = statement.indexOf(' ') + 1; at > 0; at = statement.indexOf(' ', at) + 1) {
+                fault(first, statement.substring(0, at) + "0000" + statement.substring(at) + ";", 1, at);
+                String four = statement.substring(0, at) + "000" + statement.substring(at) + ";";
+                C.same(four, Checks.tell(Checks.depot(first), four), 1);
+            }
+        }
+    }
+
+    /** Signs just outside a to z, 0 to 9, the blanks and the semicolon, and those that have their lowest bits. */
+    private static void bytesBesideLettersAndDigits() {
+        for (int sign = 0; sign < 256; sign++) {
+            char c = (char) sign;
+            boolean digit = sign >= 48 && sign <= 57;
+            boolean letter = sign >= 97 && sign <= 122;
+            if (sign == 32 || sign == 10) {
+                C.same("blank " + sign, Checks.tell(new DepotCharge(), c + "plugs" + c + "2" + c + ";" + c), 1);
+                continue;
+            }
+            if (sign == ';') {
+                C.same("semicolon", Checks.tell(new DepotCharge(), "plugs 2" + c), 1);
+                fault("plugs 2;" + c, 1, 8);
+                continue;
+            }
+            fault(c + "plugs 2;", 1, 0);
+            if (digit) {
+                fault("plugs 2" + c + ";", 2, 6);
+                continue;
+            }
+            fault("plugs 2" + c, 1, 7);
+            fault("plugs " + c + ";", 1, 6);
+            fault("plugs" + c + " 2;", 1, letter ? 0 : 5);
+        }
+    }
+
+    private static void longTokens() {
+        fault("9".repeat(400), 1, 0);
+        fault("a".repeat(400), 1, 0);
+        fault("slots" + "0".repeat(390) + "1;", 1, 5);
+        // As an int that goes round these would be 2, 0 and 1.
+        fault("plugs 4294967298;", 1, 6);
+        fault("plugs 18446744073709551617;", 1, 6);
+        fault("plugs 10002;", 1, 6);
+        fault("plugs 9999;", 2, 6);
+        fault("slotss 4;", 1, 0);
+        fault("slot 4;", 1, 0);
+        fault("slots" + " ".repeat(395), 1, 400);
+        fault("plugs2 power2;", 1, 7);
+        fault("plugs 2;power 2;3", 1, 16);
+        C.same("400 bytes", Checks.tell(new DepotCharge(), "slots 8" + "\n".repeat(392) + ";"), 1);
+    }
+
+    /** Of several FAULTS the first along the text, whatever its kind. */
+    private static void firstAlongTheText() {
+        String full = "curve 0 5; bus 0 10 0 10 0 4; bus 0 10 0 10 0 4; bus 0 10 0 10 0 4; bus 0 10 0 10 0 4;";
+        fault("plugs 9; x", 2, 6);
+        fault("x; plugs 9;", 1, 0);
+        fault("price 9 x;", 2, 6);
+        fault("price x 999;", 1, 6);
+        fault(full, "bus 9 x", 4, 0);
+        fault(full, "charge 0 1 1 9;", 3, 11);
+        fault(full, "charge 0 9 1 1;", 2, 9);
+        fault(full, "charge 9 1 1;", 2, 7);
+        fault(full, "charge 0 1 1 bus;", 3, 11);
+        fault(full, "limit 201; bus 0 10 0 10 0 4;", 2, 6);
+        fault(full, "bus 0 10 0 10 0 4; limit 201;", 4, 0);
+        // A word that can't stand there is no BUS too many.
+        fault(full, "plugs bus 0 10 0 10 0 4;", 1, 6);
+        fault(full, "plugs 2 bus 0 10 0 10 0 4;", 1, 8);
+        fault("curve 0 5; curve 0 5; curve 0 5; curve 0 5;", "plugs curve 0 5;", 1, 6);
+        // What an earlier STATEMENT of the text changes holds for the later ones.
+        fault("slots 2; price 2 5;", 2, 15);
+        fault("slots 8; slots 2; charge 2;", 2, 25);
+        fault("curve 0 5;", "slots 8; bus 0 10 0 10 0 8; slots 4; bus 0 10 0 10 0 8;", 2, 53);
+        fault("curve 0 5; bus 1 10 0 10 0 4;", 2, 15);
+        fault("curve 0 5; bus 0 10 0 10 0 4; charge 0 0 1;", 2, 41);
+        C.same("slots make place", Checks.tell(Checks.depot(full), "slots 4;" + full.substring(10)), 5);
+        fault(full, "slots 4;" + full.substring(10) + "bus 0 10 0 10 0 4;", 4, 8 + full.length() - 10);
     }
 }
