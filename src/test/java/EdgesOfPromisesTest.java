@@ -22,6 +22,7 @@ public final class EdgesOfPromisesTest {
         tellOfNothing();
         tellEmptiesTheTape();
         tellWithFault();
+        tellWithFaultKeepsFullCurves();
         faultOfTheLatest();
         set();
         busTooSmallOrLarge();
@@ -47,6 +48,9 @@ public final class EdgesOfPromisesTest {
         were();
         least();
         leastNone();
+        leastLimitOfAll();
+        everyBusInEverySlot();
+        limitFilledInEverySlot();
         without();
         rule();
         takeRule();
@@ -196,6 +200,16 @@ public final class EdgesOfPromisesTest {
             int[] again = {d.sum(0), d.best(0), d.best(3), d.rule(1, 0)};
             C.yes("so do answers behind " + text, Arrays.equals(figures, again));
         }
+    }
+
+    private static void tellWithFaultKeepsFullCurves() {
+        DepotCharge d = Checks.depot("curve 0 1 1 2 2 3 3 4; curve 0 5 1 6 2 7 3 8; curve 0 9 1 10 2 11 3 12; curve 0 13 1 14 2 15 99 16;");
+        List<Integer> before = Checks.stateOf(d);
+        C.same("told", Checks.tell(d, "slots 4;"), 1);
+        C.yes("curves go on", Checks.stateOf(d).equals(before));
+        C.same("a fifth", Checks.tell(d, "curve 0 1;"), -1);
+        C.same("nothing to tell", d.tell(), 0);
+        C.yes("curves stay", Checks.stateOf(d).equals(before));
     }
 
     private static void faultOfTheLatest() {
@@ -527,6 +541,10 @@ public final class EdgesOfPromisesTest {
 
     private static void sum() {
         DepotCharge d = Checks.depot(TWO);
+        DepotCharge less = Checks.depot(TWO);
+        C.same("peak", less.sum(1), 25);
+        less.clear();
+        C.same("no peak of old", less.sum(1), 0);
         int[] want = {450, 25, 3, 10, 4, -1};
         for (int what = 0; what < want.length; what++) {
             int w = what;
@@ -706,6 +724,59 @@ public final class EdgesOfPromisesTest {
         C.still("16", between, () -> between.were(1, 16), -2);
     }
 
+    /** All that four BUSES in one SLOT can take together, from 1 to 200. */
+    private static void leastLimitOfAll() {
+        for (int all = 1; all <= 200; all++) {
+            StringBuilder text = new StringBuilder("slots 1; plugs 4; power 50; curve 0 50;");
+            for (int rest = all; rest > 0; rest -= 50) {
+                text.append("bus 0 ").append(Math.min(rest, 50)).append(" 0 1 0 1;");
+            }
+            DepotCharge d = Checks.depot(text.toString());
+            C.same("limit " + all, d.least(2), all);
+        }
+    }
+
+    private static void everyBusInEverySlot() {
+        DepotCharge d = Checks.depot("slots 8; plugs 4; power 5; limit 20; curve 0 5;"
+            + "bus 0 90 0 40 0 8; bus 0 90 0 40 0 8; bus 0 90 0 40 0 8; bus 0 90 0 40 0 8;");
+        C.same("no lack", d.best(3), 0);
+        C.same("all", d.take(), 32);
+        for (int s = 0; s < 8; s++) {
+            C.same("set " + s, d.plan(s), 15);
+        }
+        d.set(2, 19);
+        C.same("three in each", d.best(3), 40);
+        C.same("three in each", d.take(), 24);
+        C.same("bus 3 has nothing", d.plan(0), 7);
+        // Of an earlier BEST nothing is left where fewer are charged.
+        d.set(1, 4);
+        C.same("all, and not enough", d.best(3), 32);
+        C.same("four in each", d.take(), 32);
+        d.set(0, 1);
+        C.same("one in each", d.take(), 8);
+        int[] sets = {1, 1, 1, 1, 1, 1, 1, 1};
+        for (int s = 0; s < 8; s++) {
+            C.same("set " + s, d.plan(s), sets[s]);
+        }
+        DepotCharge last = Checks.depot("curve 0 5; bus 0 90 0 0 0 4; bus 0 90 0 0 0 4; bus 0 90 0 0 0 4; bus 0 90 0 5 3 4; charge 3 3;");
+        C.same("bus 3 alone is one charge", last.sum(2), 1);
+        C.same("bus 3 alone is right", last.sum(4), 0);
+        C.same("bus 3 alone", last.take(), 1);
+        C.same("bus 3 alone", last.plan(3), 8);
+    }
+
+    private static void limitFilledInEverySlot() {
+        // 1 and 10 in each SLOT.
+        DepotCharge d = Checks.depot("plugs 2; power 10; limit 11; curve 0 1; curve 0 10; bus 0 90 0 4 0 4; bus 1 90 0 40 0 4;");
+        C.still("cost", d, () -> d.were(2, 11), 440);
+        C.still("one less", d, () -> d.were(2, 10), -2);
+        C.still("least", d, () -> d.least(2), 11);
+        C.still("one plug", d, () -> d.were(0, 1), -2);
+        C.still("no slot to spare", d, () -> d.latest(0), 0);
+        C.same("all", d.take(), 8);
+        C.same("right", d.sum(4), 0);
+    }
+
     private static void without() {
         DepotCharge d = Checks.depot(FOUR);
         for (int set = 0; set < 16; set++) {
@@ -829,6 +900,10 @@ public final class EdgesOfPromisesTest {
         d.set(4, 0);
         C.same("price", d.best(0), 60 + 15 + 200);
         d.set(4, 10);
+        d.bus(1, 40, 0, 5, 3, 4);
+        C.same("bus", d.best(0), 525 + 50);
+        d.drop();
+        C.same("drop", d.best(0), 525);
         d.bus(1, 40, 0, 5, 3, 4);
         C.same("bus", d.best(0), 525 + 50);
         d.drop();
