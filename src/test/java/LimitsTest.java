@@ -45,6 +45,12 @@ public final class LimitsTest {
             C.same("constructor", c.getParameterCount(), 0);
         }
         C.yes("final", Modifier.isFinal(DepotCharge.class.getModifiers()));
+        for (Class<?> inside : DepotCharge.class.getDeclaredClasses()) {
+            int is = inside.getModifiers();
+            C.yes(inside + " is static, and not open", Modifier.isStatic(is) && !Modifier.isPublic(is) && !Modifier.isProtected(is));
+            long fields = Arrays.stream(inside.getDeclaredFields()).filter(f -> !Modifier.isStatic(f.getModifiers())).count();
+            C.yes(inside + " has some twenty fields at most: " + fields, fields <= 20);
+        }
     }
 
     private static void dearestCalls() {
@@ -100,6 +106,12 @@ public final class LimitsTest {
         }
         long made = threads.getThreadAllocatedBytes(self) - before;
         C.yes("440 calls made " + made + " bytes", made < 20000);
+        before = threads.getThreadAllocatedBytes(self);
+        DepotCharge one = new DepotCharge();
+        made = threads.getThreadAllocatedBytes(self) - before;
+        // In one room there may be 7.3 million elements of all objects: 14,000 each leave place for hundreds.
+        C.yes("one object made " + made + " bytes", made < 100000);
+        C.same("it is one", one.count(0), 4);
     }
 
     private static void anyNumbers() {

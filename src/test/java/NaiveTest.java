@@ -5,6 +5,7 @@ import java.util.Random;
 public final class NaiveTest {
     private static final Checks C = new Checks();
     private static final String[] WORDS = {"slots", "price", "plugs", "power", "limit", "curve", "bus", "charge"};
+    private static final int LONG_RUN = 480;
     private Random chance;
     private DepotCharge real;
     private Naive naive;
@@ -24,7 +25,8 @@ public final class NaiveTest {
         real = new DepotCharge();
         naive = new Naive();
         text(wellFormedStart());
-        int calls = 20 + below(60);
+        // An object is used for 512 calls: some runs go so far, so that nothing of earlier calls is left over.
+        int calls = seed % 25 == 0 ? LONG_RUN : 20 + below(60);
         for (int i = 0; i < calls; i++) {
             label = "seed " + seed + ", call " + i + ", ";
             call();

@@ -74,6 +74,12 @@ public final class PromisesTest {
         C.same("bus", d.bus(0, 100, 0, 50, 0, 4), 0);
         C.same("best", d.best(0), 600);
         C.same("take", d.take(), 3);
+        C.same("wrong", d.sum(4), 0);
+        C.same("late", d.late(0, 2), -2);
+        C.same("least", d.least(1), 13);
+        DepotCharge e = new DepotCharge();
+        C.same("the text", Checks.tell(e, "slots 6; price 0 5; plugs 2; limit 60; curve 0 30 80 5; bus 0 100 20 80 0 6; charge 0 0;"), 7);
+        C.same("charged", e.level(0, 6), 40);
     }
 
     private static void set() {
