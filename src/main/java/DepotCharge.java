@@ -980,6 +980,7 @@ public final class DepotCharge {
     private static final class Planner {
         private static final int COUNTS = MOST_SLOTS + 1;
         private static final int STATES = COUNTS * COUNTS * COUNTS * COUNTS;
+        // CHARGES are 32 at most, COST 99 times 800 (no more can be taken), so neither reaches the next one's place.
         private static final int CHARGE_SPAN = 64;
         private static final int COST_SPAN = 100000;
         private static final long NO_PLAN = 1L << 50;

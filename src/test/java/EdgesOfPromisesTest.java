@@ -51,6 +51,7 @@ public final class EdgesOfPromisesTest {
         leastLimitOfAll();
         everyBusInEverySlot();
         limitFilledInEverySlot();
+        greatestCostAndCharges();
         without();
         rule();
         takeRule();
@@ -775,6 +776,29 @@ public final class EdgesOfPromisesTest {
         C.still("no slot to spare", d, () -> d.latest(0), 0);
         C.same("all", d.take(), 8);
         C.same("right", d.sum(4), 0);
+    }
+
+    private static void greatestCostAndCharges() {
+        DepotCharge dear = Checks.depot("plugs 4; power 50; limit 200; price 0 99; price 1 99; price 2 99; price 3 99; curve 0 50;"
+            + "bus 0 200 0 200 0 4; bus 0 200 0 200 0 4; bus 0 200 0 200 0 4; bus 0 200 0 200 0 4;");
+        int most = 800 * 99;
+        C.still("all that can be taken at the greatest price", dear, () -> dear.best(0), most);
+        C.still("were", dear, () -> dear.were(0, 4), most);
+        C.still("late", dear, () -> dear.late(0, 0), most);
+        C.still("without", dear, () -> dear.without(15), most);
+        C.still("one bus less", dear, () -> dear.without(14), most / 4 * 3);
+        C.still("by a rule", dear, () -> dear.rule(2, 0), most);
+        DepotCharge often = Checks.depot("slots 8; plugs 4; power 1; limit 4; curve 0 1;"
+            + "bus 0 90 0 8 0 8; bus 0 90 0 8 0 8; bus 0 90 0 8 0 8; bus 0 90 0 8 0 8;");
+        C.still("32 charges", often, () -> often.best(2), 32);
+        C.still("32 charges cost no more than they do", often, () -> often.were(2, 4), 320);
+        C.still("24 charges", often, () -> often.without(7), 240);
+        // The greatest LACK of all: nobody can be charged.
+        DepotCharge none = Checks.depot("plugs 4; power 50; limit 1; curve 0 50;"
+            + "bus 0 200 0 200 0 4; bus 0 200 0 200 0 4; bus 0 200 0 200 0 4; bus 0 200 0 200 0 4;");
+        C.still("all lacks", none, () -> none.best(3), 800);
+        C.still("no cost", none, () -> none.best(0), 0);
+        C.still("no charge", none, () -> none.best(2), 0);
     }
 
     private static void without() {
